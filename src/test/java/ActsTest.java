@@ -146,6 +146,9 @@ public final class ActsTest {
         due.is("set(0, 6)", x.set(0, 6), HeatLines.BAD);
         due.is("set(0, 7)", x.set(0, 7), 9);
         due.is("set(1, 8)", x.set(1, 8), HeatLines.BAD);
+        due.is("set(0, 9)", x.set(0, 9), 7);
+        due.is("set(0, 10)", x.set(0, 10), HeatLines.BAD);
+        due.is("set(0, 7)", x.set(0, 7), 9);
         due.is("set(2, 8)", x.set(2, 8), HeatLines.BAD);
         due.is("set(2, 2)", x.set(2, 2), HeatLines.BAD);
         due.is("set(2, 3)", x.set(2, 3), 5);
@@ -154,7 +157,7 @@ public final class ActsTest {
         due.is("set(4, 0)", x.set(4, 0), 1);
         due.is("set(4, 3)", x.set(4, 3), 0);
         due.is("set as it is", x.set(4, 3), 3);
-        due.is("acts", x.about(17), 5);
+        due.is("acts", x.about(17), 7);
         due.is("table(4)", x.table(4), 3);
         due.is("table(2)", x.table(2), 3);
     }
@@ -170,7 +173,7 @@ public final class ActsTest {
     }
 
     private static void undos() {
-        HeatLines x = Due.told(HEAD + "loo--l-o--");
+        HeatLines x = Due.told("H41209009000097531loo--loooo");
         String[] was = new String[6];
         was[0] = Due.allOf(x);
         x.put(9);

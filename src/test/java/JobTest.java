@@ -168,9 +168,12 @@ public final class JobTest {
     }
 
     private static void jobAfterAJob() {
-        HeatLines x = Due.told(HEAD + "loo--loooo");
+        HeatLines x = Due.told("H41209009000097531loo--loooo");
         x.seed(77);
         x.print(2);
+        due.is("pale ahead of it", x.about(11), 4);
+        due.is("dark ahead of it", x.about(12), 2);
+        due.is("ghosts ahead of it", x.about(13), 1);
         x.ribbon(7);
         x.see(3, 0, 1);
         x.keep(1);
@@ -178,7 +181,7 @@ public final class JobTest {
         for (int d = 0; d < 4; d++) {
             due.is("cold again", x.heat(d), 0);
         }
-        int[] want = {4, 1, 2, 50, 120, 20, 2, 0, 0, 99, 0, 0, 0, 0, 0};
+        int[] want = {4, 1, 2, 90, 90, 0, 2, 0, 0, 99, 0, 0, 0, 0, 0};
         for (int what = 0; what < want.length; what++) {
             due.is("job again: about(" + what + ")", x.about(what), want[what]);
         }
@@ -325,6 +328,25 @@ public final class JobTest {
         HeatLines ghost = Due.told("H14100099904199999lol-");
         ghost.print(1);
         due.is("ghost that goes", ghost.about(16), coolingsTo(90, 41) - 1);
+        longestRest();
+    }
+
+    /** A dot at 999 and a blank line: the ghost is gone behind 61 coolings, or only behind 62. */
+    private static void longestRest() {
+        int heat = 999;
+        for (int i = 0; i < 61; i++) {
+            heat -= heat >> 4;
+        }
+        for (int k = 59; k <= 61; k++) {
+            HeatLines x = Due.told(String.format("H341000999%03d99999", heat + 60 - k));
+            for (int i = 0; i < 40; i++) {
+                x.put(7);
+                x.print(1);
+            }
+            due.is("heat of the middle one", x.heat(1), 999);
+            x.put(0);
+            due.is("rest of " + k, x.about(16), k <= 60 ? k : HeatLines.NONE);
+        }
     }
 
     private static int restWithoutRibbon() {
