@@ -426,7 +426,7 @@ public final class HeatLines {
         return head.printQueue(trial, dead);
     }
 
-    /** In how many orders of all dots just so many come ahead of a dot, when it is told which they are. */
+    /** Orders of all dots in which just certain ones, so many, come ahead of a certain other. */
     private long ordersWith(int ahead) {
         int behind = head.dots - 1 - ahead;
         if (ahead < 0 || behind < 0 || ahead >= FACTORIALS.length || behind >= FACTORIALS.length) {
@@ -710,8 +710,11 @@ public final class HeatLines {
         /** A dot's pulse goes by what is to be black, so that dead dots have one, too. */
         void findPulses(int[] figures, int w, int last, int before) {
             for (int d = 0; d < dots; d++) {
-                int near = bit(w << 1, d) + bit(w >> 1, d) + bit(last, d) + bit(before, d);
-                pulses[d] = bit(w, d) == 1 ? figures[near] : 0;
+                pulses[d] = 0;
+                if (bit(w, d) == 1) {
+                    int near = bit(w << 1, d) + bit(w >> 1, d) + bit(last, d) + bit(before, d);
+                    pulses[d] = figures[near];
+                }
             }
         }
 

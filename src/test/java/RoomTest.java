@@ -30,7 +30,7 @@ public final class RoomTest {
     }
 
     private static long made() {
-        return threads.getThreadAllocatedBytes(Thread.currentThread().getId());
+        return threads.getCurrentThreadAllocatedBytes();
     }
 
     private static void useAll(HeatLines x) {
