@@ -1,6 +1,8 @@
 /** Counts the answers that are not as due, and ends the program by them. */
 final class Due {
     private final String name;
+    private String sentence = "";
+    private int sentences;
     private int asked;
     private int wrong;
 
@@ -8,11 +10,17 @@ final class Due {
         this.name = name;
     }
 
+    /** What follows looks at this sentence of the document, until the next one. */
+    void says(String sentence) {
+        this.sentence = " [" + sentence + "]";
+        sentences++;
+    }
+
     void is(String what, long got, long want) {
         asked++;
         if (got != want) {
             wrong++;
-            System.out.println(name + ": " + what + " answered " + got + ", due is " + want);
+            System.out.println(name + ": " + what + " answered " + got + ", due is " + want + sentence);
         }
     }
 
@@ -21,7 +29,8 @@ final class Due {
     }
 
     void end() {
-        System.out.println(name + ": " + asked + " answers, " + wrong + " wrong");
+        String about = sentences > 0 ? " about " + sentences + " sentences" : "";
+        System.out.println(name + ": " + asked + " answers" + about + ", " + wrong + " wrong");
         if (wrong != 0 || asked == 0) {
             System.exit(1);
         }
