@@ -172,25 +172,33 @@ public final class ActsTest {
         due.is("acts", x.about(17), 3);
     }
 
-    private static void undos() {
+    /** The first so many of five acts, one of each kind. */
+    private static HeatLines behindActs(int count) {
         HeatLines x = Due.told("H41209009000097531loo--loooo");
-        String[] was = new String[6];
-        was[0] = Due.allOf(x);
-        x.put(9);
-        was[1] = Due.allOf(x);
-        x.print(2);
-        was[2] = Due.allOf(x);
-        x.pause(1);
-        was[3] = Due.allOf(x);
-        x.set(0, 8);
-        was[4] = Due.allOf(x);
-        x.ribbon(5);
-        for (int left = 4; left >= 0; left--) {
-            due.is("undo", x.undo(), left);
-            due.unchanged("an act undone to " + left, was[left], x);
+        for (int i = 0; i < count; i++) {
+            switch (i) {
+                case 0: x.put(9); break;
+                case 1: x.print(2); break;
+                case 2: x.pause(1); break;
+                case 3: x.set(0, 8); break;
+                default: x.ribbon(5); break;
+            }
         }
+        return x;
+    }
+
+    private static void undos() {
+        // An object for each way back, so that none is used for more calls than the document speaks of.
+        for (int left = 4; left >= 0; left--) {
+            HeatLines x = behindActs(5);
+            for (int i = 4; i >= left; i--) {
+                due.is("undo", x.undo(), i);
+            }
+            due.unchanged("an act undone to " + left, Due.allOf(behindActs(left)), x);
+        }
+        HeatLines x = behindActs(0);
         due.is("undo of none", x.undo(), HeatLines.LATE);
-        due.unchanged("undo of none", was[0], x);
+        due.unchanged("undo of none", Due.allOf(behindActs(0)), x);
         x.write('l');
         x.see(0, 0, 0);
         x.seed(8);

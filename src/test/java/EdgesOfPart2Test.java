@@ -9,6 +9,7 @@ public final class EdgesOfPart2Test {
         oneLineAlone();
         speedNoMoreThanMost();
         speedsApartByOne();
+        asGreatAsCanBe();
         ticksOfSome();
         ticksOfNone();
         fitIsTheLeastOfLikeOnes();
@@ -84,6 +85,56 @@ public final class EdgesOfPart2Test {
         speedsAre(Jobs.of(8).lines(0, 0, 255, 0, 0, 255, 0, 0).told(), 1, 2, 1, 2, 2, 1, 2, 1);
         speedsAre(Jobs.of(8).lines(0, 255, 0, 0, 0, 0, 0, 0).told(), 1, 1, 2, 3, 4, 3, 2, 1);
         speedsAre(Jobs.of(8).lines(0, 0, 0, 0, 0, 0, 255, 0).told(), 1, 2, 3, 4, 3, 2, 1, 1);
+    }
+
+    private static void asGreatAsCanBe() {
+        due.says("SPEED .. is the greatest whole number such that .. (All as great as can be, together.)");
+        int[] blackDots = {0, 15, 31, 63, 127, 255};
+        for (int run = 0; run < 40; run++) {
+            int[] sets = new int[1 + run % 8];
+            for (int i = 0; i < sets.length; i++) {
+                sets[i] = blackDots[(run * 7 + i * i * 3 + i * run) % 6];
+            }
+            HeatLines x = Jobs.of(8).lines(sets).told();
+            int[] greatest = greatestSpeeds(x, sets.length);
+            for (int i = 0; i < sets.length; i++) {
+                due.is("speed " + i + " in run " + run, x.line(i, 3), greatest[i]);
+            }
+        }
+    }
+
+    /** Tries all speeds of 1 .. 5: beyond 4 none can be, since eight lines go up from 1 and down to 1. */
+    private static int[] greatestSpeeds(HeatLines x, int k) {
+        int[] most = new int[k];
+        for (int i = 0; i < k; i++) {
+            most[i] = x.line(i, 2);
+        }
+        int[] greatest = new int[k];
+        int all = (int) Math.pow(5, k);
+        for (int code = 0; code < all; code++) {
+            int[] speeds = new int[k];
+            int left = code;
+            for (int i = 0; i < k; i++) {
+                speeds[i] = 1 + left % 5;
+                left /= 5;
+            }
+            if (mayRun(speeds, most)) {
+                for (int i = 0; i < k; i++) {
+                    greatest[i] = Math.max(greatest[i], speeds[i]);
+                }
+            }
+        }
+        return greatest;
+    }
+
+    private static boolean mayRun(int[] speeds, int[] most) {
+        int k = speeds.length;
+        boolean may = speeds[0] == 1 && speeds[k - 1] == 1;
+        for (int i = 0; i < k; i++) {
+            may &= speeds[i] <= most[i];
+            may &= i == 0 || Math.abs(speeds[i] - speeds[i - 1]) <= 1;
+        }
+        return may;
     }
 
     private static void ticksOfSome() {

@@ -225,6 +225,12 @@ public final class EdgesOfPart3Test {
         HeatLines one = Jobs.of(8).lines(255, 255, 255, 255, 255, 255, 255, 254).told();
         chanceIs(one, 63, 5, 1, 1);
         chanceIs(one, 64, 5, 0, 1);
+        // What was right ahead of that is not in the queue any more.
+        one.ribbon(99);
+        one.print(7);
+        due.is("right ahead of it", one.about(10), 56);
+        chanceIs(one, 7, 5, 1, 1);
+        chanceIs(one, 8, 5, 0, 1);
         chanceIs(new HeatLines(), 0, 0, 1, 1);
         chanceIs(new HeatLines(), 1, 0, 0, 1);
         for (int v : new int[] {-1, 65, Integer.MIN_VALUE, Integer.MAX_VALUE}) {
