@@ -35,7 +35,10 @@ public final class ModelTest {
 
     private void is(String call, long got, long want) {
         calls++;
-        due.is("run " + run + ", call " + calls + ": " + call, got, want);
+        // A text told at the end of a run goes beyond the last call that the document speaks of.
+        if (calls <= CALLS) {
+            due.is("run " + run + ", call " + calls + ": " + call, got, want);
+        }
     }
 
     /** A number of 0 .. most, now and then just beyond it, or far. */
