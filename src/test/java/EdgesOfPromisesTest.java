@@ -108,6 +108,19 @@ public final class EdgesOfPromisesTest {
             due.is("letters", x.about(19), 0);
             due.is("fault", x.fault(), 0);
         }
+        // What stood behind the end of the new text is gone, even where it could be read as one dot more.
+        for (int n = 1; n <= 8; n++) {
+            HeatLines y = new HeatLines();
+            for (int i = 0; i < 99; i++) {
+                y.write('o');
+            }
+            due.is("of 99", y.wipe(), 99);
+            Due.writeText(y, Jobs.of(n).lines(0, 1).text());
+            due.is("fault of " + n, y.fault(), NONE);
+            due.is("job of " + n, y.job(), 2);
+            due.is("its first line", y.line(0, 0), 0);
+            due.is("its last line", y.line(1, 0), 1);
+        }
     }
 
     private static void faults() {
